@@ -534,8 +534,7 @@ public final class FleetShares {
         }
         ledger.reckon(book);
         pen.begin(i);
-        pen.writeWord("fleet");
-        pen.writeBehind(fleet);
+        pen.writeNamed("fleet", fleet);
         pen.writeNamed(" class", book.classOf(fleet));
         pen.writeNamed(" years", ledger.spanOf(fleet));
         if (ledger.isRated(fleet)) {
@@ -1628,14 +1627,10 @@ public final class FleetShares {
             written++;
         }
 
-        void writeWord(String word) {
+        void writeNamed(String word, int number) {
             for (int i = 0; i < word.length(); i++) {
                 writeByte(word.charAt(i));
             }
-        }
-
-        void writeNamed(String word, int number) {
-            writeWord(word);
             writeBehind(number);
         }
 

@@ -49,6 +49,10 @@ public final class ActsTest {
         unchanged(x, "");
         Due.is("fleet(2, 21)", x.fleet(2, 21), 0);
         changed(x, "", "fleet 2 0 2 4;");
+        Due.is("fleet(0, 0)", x.fleet(0, 0), 0);
+        changed(x, "", "fleet 0;");
+        Due.is("fleet(1, 31)", x.fleet(1, 31), 0);
+        changed(x, "", "fleet 1 0 1 2 3 4;");
         for (int i = 0; i < 8; i++) {
             Due.is("fleet " + i, x.fleet(i % 3, 31 - i), i);
         }
@@ -139,6 +143,9 @@ public final class ActsTest {
         }
         Due.is("a forty-first", x.claim(2, 0, 1), -1);
         Due.is("forty", x.count(1), 40);
+        x.undo();
+        x.claim(1, 4, 1);
+        Due.is("a forty-first is no act", x.claim(2, 0, 1) + x.count(4), 11);
         Due.is("waive of forty", x.waive(39), true);
         Due.is("the fortieth again", x.claim(2, 0, 1), 39);
     }
@@ -222,6 +229,7 @@ public final class ActsTest {
         changed(x, was, "fleet 0 1;fleet 1 1;fleet 0 0 4;claim 2 0 1;claim 1 1 2;claim 2 4 3;claim 0 1 4;claim 2 0 5;");
         x = Due.made("fleet 2 0 1;".repeat(8));
         Due.is("split of eight", x.split(0, 1), -1);
+        unchanged(x, "fleet 2 0 1;".repeat(8));
         x.leave(7);
         Due.is("split of seven", x.split(0, 1), 7);
         Due.is("its class", x.of(7, 0), 2);

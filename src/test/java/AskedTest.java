@@ -22,6 +22,7 @@ public final class AskedTest {
         thousandths();
         ranked();
         rankedOfAlikeThousandths();
+        rankedOfAlikeWholes();
         greatest();
         worst();
         dearestOf();
@@ -54,6 +55,9 @@ public final class AskedTest {
         Due.is("a share where BETWEEN is below 0", x.of(0, 7), 0);
         x = Due.made("fleet 0 0;fleet 0 1;claim 0 0 9;");
         Due.is("a share where WITHIN is none", x.of(0, 7), 0);
+        x = Due.made("cap 8;fleet 0 0;fleet 1 0;claim 0 0 9;claim 1 0 8;claim 1 0 9;claim 0 0 10;");
+        Due.is("above CAP from the first claim on", x.of(0, 6), 2);
+        Due.is("CAP itself is not above it", x.of(1, 6), 1);
     }
 
     private static void loss() {
@@ -211,6 +215,26 @@ public final class AskedTest {
         Due.is("ranked(2)", x.ranked(2), 0);
     }
 
+    /** By STEADY 0 a fleet alone in its class has MEAN as its RATE: 5, 11 by 2 and 21 by 4 in all orders. */
+    private static void rankedOfAlikeWholes() {
+        String[] fleets = {"0;", "0 1;", "0 1 2 3;"};
+        int[] sums = {5, 11, 21};
+        int[][] orders = {{0, 1, 2}, {0, 2, 1}, {1, 0, 2}, {1, 2, 0}, {2, 0, 1}, {2, 1, 0}};
+        for (int[] order : orders) {
+            StringBuilder text = new StringBuilder("steady 0;");
+            for (int cls = 0; cls < 3; cls++) {
+                text.append("fleet " + cls + " " + fleets[order[cls]]);
+            }
+            for (int cls = 0; cls < 3; cls++) {
+                text.append("claim " + cls + " 0 " + sums[order[cls]] + ";");
+            }
+            FleetShares x = Due.made(text.toString());
+            Due.is("the greatest, 11 by 2", order[x.ranked(0)], 1);
+            Due.is("then 21 by 4", order[x.ranked(1)], 2);
+            Due.is("then 5", order[x.ranked(2)], 0);
+        }
+    }
+
     private static void greatest() {
         FleetShares x = Due.made("cap 5;fleet 0 0 1;fleet 1 0;"
                 + "claim 0 0 7;claim 1 0 99;claim 0 1 9;claim 0 1 7;claim 0 0 50;");
@@ -248,6 +272,8 @@ public final class AskedTest {
         }
         x = Due.made("fleet 0;fleet 0 0;fleet 0 0;");
         Due.is("dearestOf alike", x.dearestOf(0), 1);
+        x = Due.made("fleet 0 0 1;fleet 0 0 1;claim 0 0 9;claim 0 1 9;");
+        Due.is("dearestOf the first", x.dearestOf(0), 0);
     }
 
     private static void claimsIn() {
@@ -266,6 +292,7 @@ public final class AskedTest {
         Due.is("gap(0, 1)", x.gap(0, 1), -34265);
         Due.is("gap(1, 0)", x.gap(1, 0), 34265);
         Due.is("gap(2, 2)", x.gap(2, 2), 0);
+        Due.is("gap of 0", Due.made("fleet 0 0;fleet 1 0;").gap(0, 1), 0);
         for (int[] wrong : new int[][] {{0, 3}, {3, 0}, {3, 3}, {-1, 0}, {0, -1}, {4, 0}, {0, 4}, {LOW, HIGH}}) {
             Due.is("gap of no such ones", x.gap(wrong[0], wrong[1]), -1000000);
         }

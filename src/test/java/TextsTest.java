@@ -88,5 +88,11 @@ public final class TextsTest {
         for (int wrong : new int[] {-1, 9, LOW, HIGH}) {
             Due.is("count(" + wrong + ")", x.count(wrong), -1);
         }
+        x = Due.made("cap 4;fleet 1;fleet 0 4;fleet 0;claim 1 4 5;claim 1 4 4;claim 1 4 9;");
+        Due.is("claims above CAP", x.count(6), 2);
+        Due.is("fleets with n 0", x.count(7), 2);
+        x.swap(0, 1);
+        Due.is("years", x.count(8), 16);
+        Due.is("claims above CAP then", x.count(6), 2);
     }
 }

@@ -67,6 +67,14 @@ public final class ToldTest {
         Due.is("back(7)", x.back(7), 13);
         Due.is("back(13)", x.back(13), 0);
         Due.is("nothing is left", x.text(), 0);
+        Due.put(x, "cap 5;");
+        x.back(1);
+        Due.is("what went is not read", x.text(), -9);
+        Due.put(x, "cap 55;");
+        x.back(2);
+        Due.put(x, ";");
+        Due.is("what comes stands behind what stayed", x.text(), 0);
+        Due.is("cap then", x.count(2), 5);
     }
 
     private static void textStands() {
@@ -124,6 +132,13 @@ public final class ToldTest {
         fault(" capx 5;", 1);
         fault("caps", 0);
         fault("capcap 5;", 0);
+        fault("capz 5;", 0);
+        fault("capa 5;", 0);
+        fault("xap 5;", 0);
+        fault("cax 5;", 0);
+        fault("ca{ 5;", 0);
+        fault("cap` 5;", 3);
+        fault("cap{ 5;", 3);
         fault("Cap 5;", 0);
         fault("5;", 0);
         fault(";", 0);

@@ -51,6 +51,10 @@ public final class WereTest {
         }
         x = Due.made("fleet 0 0 1;fleet 0 0 1;claim 0 0 9;claim 0 1 9;");
         Due.is("WITHIN 0", x.yearsFor(1, 1000), 1);
+        // BETWEEN is 5 by 8 of WITHIN: 61.875 by 62.875.
+        x = Due.made("fleet 0 0 1;fleet 0 0 1 2 3;claim 0 0 65;");
+        Due.is("the most n", x.yearsFor(0, 984), 99);
+        Due.is("beyond the most n", x.yearsFor(0, 985), -2);
     }
 
     private static void inClass() {
@@ -96,6 +100,8 @@ public final class WereTest {
         x.cap(40);
         Due.is("above CAP, too", x.byCap(0, 99), 45000);
         Due.is("CAP is as it was", x.count(2), 40);
+        x.amend(1, 70);
+        Due.is("behind an act", x.byCap(0, 99), 50000);
     }
 
     private static void capFor() {
@@ -202,6 +208,9 @@ public final class WereTest {
         Due.is("the greater one", Due.made(ALONE).dearest(), 1);
         Due.is("of alike ones the first", Due.made("fleet 0 0 1;claim 0 0 5;claim 0 1 7;claim 0 0 7;").dearest(), 1);
         Due.is("one is the one", Due.made("cap 1;fleet 0 0;claim 0 0 5;").dearest(), 0);
+        // By STEADY 0 and alone a fleet has MEAN: the claims are worth 6, 7 and 3.
+        Due.is("by what its own fleet has",
+                Due.made("steady 0;fleet 0 0 1;fleet 1 0;fleet 2 0 1 2;claim 0 0 12;claim 1 0 7;claim 2 1 9;").dearest(), 1);
         FleetShares x = Due.made("fleet 0 0 2 3;fleet 0 0 2 3;fleet 0 0 1 2 3 4;fleet 0 1 2 4;"
                 + "claim 0 2 31;claim 3 4 54;");
         Due.is("below 0", x.dearest(), 1);
