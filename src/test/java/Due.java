@@ -5,15 +5,21 @@ import java.util.Arrays;
 final class Due {
     private static int asked = 0;
     private static int wrong = 0;
+    private static String heading = "";
 
     private Due() {
+    }
+
+    /** What stands ahead of each wrong answer from now on. */
+    static void under(String newHeading) {
+        heading = newHeading;
     }
 
     static void is(String call, long got, long want) {
         asked++;
         if (got != want) {
             wrong++;
-            System.out.println(call + " answered " + got + ", due is " + want);
+            System.out.println(heading + call + " answered " + got + ", due is " + want);
         }
     }
 
@@ -25,7 +31,7 @@ final class Due {
         asked++;
         if (!got.equals(want)) {
             wrong++;
-            System.out.println(call + " answered '" + got + "', due is '" + want + "'");
+            System.out.println(heading + call + " answered '" + got + "', due is '" + want + "'");
         }
     }
 
