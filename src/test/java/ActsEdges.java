@@ -1,8 +1,14 @@
+import java.util.Arrays;
+
 /** Boundary cases of promises 5 to 21: when an act is refused, and what it does at its limits. */
 final class ActsEdges {
     private static final String EIGHT = "fleet 1 0 1;".repeat(8);
     private static final String BUSY = "fleet 0 0 1;fleet 1 1 2;fleet 2 0 4;"
             + "claim 0 0 10;claim 1 1 20;claim 2 4 30;claim 0 1 40;claim 1 2 50;claim 2 0 60;";
+
+    /** Eight fleets, of which the last one has the last of forty claims. */
+    private static final String FULL = TermsEdges.FORTY.replace("claim 1 4 7;", "")
+            + "fleet 0;fleet 1;fleet 2;fleet 0;fleet 2 4;" + "claim 7 4 99;".repeat(4);
 
     private ActsEdges() {
     }
@@ -309,6 +315,12 @@ final class ActsEdges {
         o = Office.of("fleet 0 0 1;claim 0 0 1;claim 0 0 99;claim 0 1 2;");
         o.due("scale(0, 150)", 1);
         o.dueHeld("fleet 0 0 1;claim 0 0 1;claim 0 0 99;claim 0 1 3;");
+        // What other acts have done in between stays.
+        o.due("waive(0)", 1);
+        o.due("cap(7)", 99);
+        o.due("scale(0, 50)", 2);
+        o.dueHeld("fleet 0 0 1;claim 0 0 49;claim 0 1 1;");
+        o.due("count(2)", 7);
 
         Edges.of(16, "NONE, and nothing happens: no such FLEET");
         o = busy(BUSY);
@@ -363,9 +375,12 @@ final class ActsEdges {
         o = Office.of(text);
         o.due("merge(2, 0)", 0);
         o.dueHeld("fleet 0 0 2;fleet 1 1;claim 0 2 1;claim 1 1 2;claim 0 0 3;");
-        o = Office.of("fleet 0;fleet 1 0 1 2 3 4;claim 1 4 5;");
+        o = Office.of(text);
+        o.due("merge(0, 2)", 1);
+        o.dueHeld("fleet 1 1;fleet 2 0 2;claim 1 2 1;claim 0 1 2;claim 1 0 3;");
+        o = Office.of("fleet 0;fleet 1 0 1 2 3 4;claim 1 4 5;claim 1 0 6;");
         o.due("merge(1, 0)", 0);
-        o.dueHeld("fleet 0 0 1 2 3 4;claim 0 4 5;");
+        o.dueHeld("fleet 0 0 1 2 3 4;claim 0 4 5;claim 0 0 6;");
 
         Edges.of(18, "the other one's number then");
         o = Office.of("fleet 0;".repeat(8));
@@ -420,6 +435,18 @@ final class ActsEdges {
         o.refuses("steady(0)");
     }
 
+    private static void dueTakenBack(String text, String... acts) {
+        Office o = Office.of(text);
+        String had = o.state();
+        for (String act : acts) {
+            Due.is(act + " is not refused", o.ask(act) >= 0, true);
+        }
+        for (int more = acts.length - 1; more >= 0; more--) {
+            o.due("undo()", more);
+        }
+        Due.is("all when " + Arrays.toString(acts) + " are taken back", o.state(), had);
+    }
+
     private static void undo() {
         Edges.of(21, "The latest ACT is taken back: how many more can be");
         Office o = Office.of(BUSY);
@@ -429,6 +456,14 @@ final class ActsEdges {
         o.dueHeld("fleet 1 1 2;fleet 2 0 4;claim 0 1 20;claim 1 4 30;claim 0 2 50;claim 1 0 60;");
         o.due("undo()", 0);
         o.dueHeld(BUSY);
+        String[] acts = {"fleet(1, 24)", "leave(1)", "move(0, 2)", "insure(0, 4)", "lapse(0, 0)", "forget(1)",
+            "claim(0, 0, 9)", "waive(0)", "amend(0, 9)", "join(0, 1)", "swap(0, 2)", "scale(0, 50)", "split(0, 1)",
+            "merge(1, 2)", "cap(7)", "steady(7)"};
+        for (String act : acts) {
+            dueTakenBack(BUSY, act);
+        }
+        dueTakenBack(FULL, "leave(7)", "fleet(1, 3)", "claim(7, 1, 5)");
+        dueTakenBack(FULL, "waive(39)", "claim(2, 0, 5)", "scale(0, 1)", "forget(0)");
         // Taking back is no act, and what comes behind it can be taken back again.
         o.due("count(4)", 0);
         o.due("cap(7)", 99);

@@ -34,6 +34,19 @@ final class AskedEdges {
         o.due("of(1, 1)", 31);
         o.due("of(2, 1)", 16);
 
+        Edges.of(22, "2 n, 3 S, 4 Q, 5 how many CLAIMS");
+        StringBuilder most = new StringBuilder("fleet 0 0 1 2 3 4;fleet 0;fleet 1 0;");
+        for (int claim = 0; claim < 20; claim++) {
+            most.append("claim 0 " + claim % 5 + " 99;");
+        }
+        o = Office.of(most.toString());
+        o.due("of(0, 2)", 5);
+        o.due("of(0, 3)", 5 * 396);
+        o.due("of(0, 4)", 5 * 396 * 396);
+        o.due("of(0, 5)", 20);
+        o.due("of(2, 2)", 1);
+        o.dueOfEach(0, "of(1, 2)", "of(1, 3)", "of(1, 4)", "of(1, 5)", "of(2, 3)", "of(2, 4)", "of(2, 5)");
+
         Edges.of(22, "6 how many of them are above CAP");
         o = Office.of("cap 8;fleet 0 0;fleet 1 0;claim 0 0 9;claim 1 0 8;claim 1 0 9;claim 0 0 10;claim 1 0 7;");
         o.due("of(0, 6)", 2);
@@ -90,8 +103,17 @@ final class AskedEdges {
     }
 
     private static void group() {
+        Edges.of(25, "0 k, 1 N, 2 T");
+        Office o = Office.of("fleet 1 0 1 2 3 4;".repeat(8) + "claim 7 4 99;".repeat(4));
+        o.due("group(1, 0)", 8);
+        o.due("group(1, 1)", 40);
+        o.due("group(1, 2)", 396);
+        o.dueOfEach(0, "group(0, 0)", "group(0, 1)", "group(0, 2)");
+        o = Office.of("fleet 1;");
+        o.dueOfEach(0, "group(1, 0)", "group(1, 1)", "group(1, 2)");
+
         Edges.of(25, "3 Y (-2: N is 0)");
-        Office o = Office.of("steady 0;fleet 0 0;fleet 1;");
+        o = Office.of("steady 0;fleet 0 0;fleet 1;");
         o.due("group(0, 3)", 1000);
         o.due("group(1, 3)", -2);
         o.due("group(2, 3)", -2);
@@ -351,7 +373,7 @@ final class AskedEdges {
         o.dueOfEach(-2, "premium(1, 1)", "premium(1, 12)", "premium(1, 60)");
 
         Edges.of(36, "NONE: no such ones.");
-        o.dueOfEach(-1, "premium(2, 12)", "premium(-1, 12)", "premium(min, 12)", "premium(max, 12)");
+        o.dueOfEach(-1, "premium(2, 1)", "premium(-1, 1)", "premium(min, 60)", "premium(max, 60)");
         o.dueOfEach(-1, "premium(0, 0)", "premium(0, 61)", "premium(0, -1)", "premium(0, min)", "premium(0, max)");
     }
 }

@@ -277,30 +277,44 @@ final class TermsEdges {
 
     private static void were() {
         Edges.of(Edges.TERMS, "WERE: things are as they are but for what is told; nothing happens.");
-        Office o = Office.of(SAMPLE);
-        o.due("cap(40)", 50);
+        // The sample by acts alone: nothing stands as a text told it.
+        Office o = Office.empty();
+        String[] acts = {"steady(4)", "fleet(0, 3)", "fleet(0, 3)", "fleet(1, 15)", "fleet(2, 0)", "claim(0, 0, 10)",
+            "claim(0, 1, 20)", "claim(1, 0, 60)", "claim(1, 1, 50)", "claim(2, 3, 8)", "cap(50)"};
+        for (String act : acts) {
+            Due.is(act + " is not refused", o.ask(act) >= 0, true);
+        }
         o.feed("cap 7;");
         String had = o.state();
-        String rates = rates(o);
-        String[] calls = {"shareBy(0, 99)", "yearsFor(0, 1000)", "inClass(0, 2)", "bestClass(0)", "byCap(0, 1)",
-            "capFor(0)", "early(0, 1)", "earlyShare(0, 1)", "withoutFleet(0, 1)", "joined(0, 1, 3, false)",
-            "withoutClaim(0, 0)", "dearest()"};
-        for (String call : calls) {
-            Due.is(call + " tells something", o.ask(call) >= -2, true);
-            Due.is("all behind " + call, o.state(), had);
-        }
-        Due.is("rates behind all of them", rates(o), rates);
-        o.due("undo()", 0);
+        dueInSample(o);
+        Due.is("all behind these", o.state(), had);
+        // In the same order again: none sees what another one has supposed.
+        dueInSample(o);
+        o.due("undo()", 10);
+        o.due("count(2)", 99);
         o.due("text()", 0);
         o.due("count(2)", 7);
     }
 
-    private static String rates(Office o) {
-        StringBuilder all = new StringBuilder();
-        for (int fleet = 0; fleet < 4; fleet++) {
-            all.append(' ').append(o.ask("thousandths(" + fleet + ")"));
-        }
-        return all.toString();
+    private static void dueInSample(Office o) {
+        o.due("shareBy(0, 1)", 960);
+        o.due("yearsFor(0, 980)", 3);
+        // WITHIN 19.6, BETWEEN 609.26, SHARES 984, 984, 992, Y 666: 1.984 and .16479.
+        o.due("inClass(2, 0)", 2148);
+        o.due("bestClass(2)", 0);
+        o.due("withoutFleet(1, 0)", 28656);
+        // Half of 1 by 4, half of 5 by 8.
+        o.due("byCap(2, 1)", 437);
+        o.due("capFor(2)", 60);
+        // .333 of 30, .667 of 20.
+        o.due("early(0, 1)", 23330);
+        o.due("earlyShare(0, 2)", 979);
+        o.dueFraction("joined(1, 0, 0", 98, 5);
+        o.due("withoutClaim(2, 4)", 8125);
+        o.due("dearest()", 2);
+        o.due("thousandths(0)", 15207);
+        o.due("thousandths(1)", 49472);
+        o.due("thousandths(2)", 9625);
     }
 
     private static void noneAheadOfMissing() {

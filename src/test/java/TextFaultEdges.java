@@ -85,6 +85,11 @@ final class TextFaultEdges {
         fault("fleet 0 0;claims 0 0 5;", 10);
         fault("capcap 5;", 0);
         fault("acap 5;", 0);
+        for (String word : new String[] {"cap", "steady", "fleet", "claim"}) {
+            for (int i = 0; i < word.length(); i++) {
+                fault(word.substring(0, i) + "x" + word.substring(i + 1) + " 1;", 0);
+            }
+        }
     }
 
     private static void numbers() {

@@ -135,13 +135,15 @@ final class TextsEdges {
         Office.empty().due("count(7)", 0);
 
         Edges.of(51, "8 YEARS in which some FLEET is INSURED (bits)");
-        o = Office.of("fleet 0;fleet 1 0;fleet 2 0 4;");
-        o.due("count(8)", 17);
+        o = Office.of("fleet 0 1;fleet 1 0;fleet 2 0 4;fleet 0;");
+        o.due("count(8)", 19);
         o.due("forget(0)", 2);
-        o.due("count(8)", 16);
+        o.due("count(8)", 18);
         o.due("forget(4)", 1);
+        o.due("count(8)", 2);
+        o.due("forget(1)", 1);
         o.due("count(8)", 0);
-        o.due("fleet(0, 31)", 3);
+        o.due("fleet(0, 31)", 4);
         o.due("count(8)", 31);
 
         Edges.of(51, "NONE for others.");

@@ -53,12 +53,13 @@ final class WereEdges {
         o.due("yearsFor(0, 999)", 42);
         o.dueOfEach(-1, "yearsFor(0, 0)", "yearsFor(0, 1001)");
         Office.of("fleet 0 0 1;fleet 0 0 1;claim 0 0 9;claim 0 1 9;").due("yearsFor(1, 1000)", 1);
-        // BETWEEN is 5 by 8 of WITHIN: by 98 it is 983, by 99 984.
-        Office far = Office.of("fleet 0 0 1;fleet 0 0 1 2 3;claim 0 0 65;");
-        far.due("yearsFor(0, 984)", 99);
+        // BETWEEN is 1 by 98 of WITHIN: by 98 it is 500, by 99 502, by 100 it would be 505.
+        Office far = Office.of("fleet 0 0 1;fleet 0 0 1;claim 0 0 8;claim 0 1 1;claim 1 0 13;claim 1 1 6;");
+        far.dueOfEach(98, "yearsFor(0, 498)", "yearsFor(0, 500)");
+        far.dueOfEach(99, "yearsFor(0, 501)", "yearsFor(0, 502)");
 
         Edges.of(38, "-2: by none");
-        far.dueOfEach(-2, "yearsFor(0, 985)", "yearsFor(0, 1000)");
+        far.dueOfEach(-2, "yearsFor(0, 503)", "yearsFor(0, 505)", "yearsFor(0, 1000)");
         o.due("yearsFor(0, 1000)", -2);
         o.dueOfEach(-2, "yearsFor(2, 1)", "yearsFor(2, 1000)");
 
@@ -285,6 +286,12 @@ final class WereEdges {
         // By STEADY 0 and alone a fleet has MEAN: the claims are worth 6, 7 and 3.
         Office o = Office.of("steady 0;fleet 0 0 1;fleet 1 0;fleet 2 0 1 2;claim 0 0 12;claim 1 0 7;claim 2 1 9;");
         o.due("dearest()", 1);
+        o.due("swap(0, 1)", 1);
+        o.due("dearest()", 1);
+        o.due("swap(1, 2)", 1);
+        o.due("dearest()", 1);
+        o.due("amend(0, 60)", 12);
+        o.due("dearest()", 0);
         // A claim that stands apart makes WITHIN great and SHARES small: without it the rate is more.
         o = Office.of("fleet 0 0 1 2;fleet 0 0 1 2 3;fleet 0 0 1 2 3;fleet 0 0 1 2;"
                 + "claim 0 1 19;claim 3 0 38;claim 2 3 1;");
