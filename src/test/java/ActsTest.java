@@ -30,14 +30,14 @@ public final class ActsTest {
 
     /** The act has answered already: the text is then as told, one act more can be undone, and it is. */
     private static void changed(FleetShares x, String was, String now) {
-        Due.is("spelled", Due.spelled(x), "cap 99;steady 5;" + now);
+        Due.is("held", Due.held(x), "cap 99;steady 5;" + now);
         Due.is("one act", x.count(4), 1);
         Due.is("undo", x.undo(), 0);
-        Due.is("undone", Due.spelled(x), "cap 99;steady 5;" + was);
+        Due.is("undone", Due.held(x), "cap 99;steady 5;" + was);
     }
 
     private static void unchanged(FleetShares x, String was) {
-        Due.is("as it was", Due.spelled(x), "cap 99;steady 5;" + was);
+        Due.is("as it was", Due.held(x), "cap 99;steady 5;" + was);
         Due.is("no act", x.count(4), 0);
     }
 
@@ -251,7 +251,7 @@ public final class ActsTest {
                 + "claim 0 0 1;claim 0 3 2;claim 1 1 3;claim 2 4 4;claim 0 1 5;");
         x = Due.made("fleet 0;fleet 1;");
         Due.is("merge without years", x.merge(0, 1), 0);
-        Due.is("merged", Due.spelled(x), "cap 99;steady 5;fleet 1;");
+        Due.is("merged", Due.held(x), "cap 99;steady 5;fleet 1;");
     }
 
     private static void cap() {
@@ -302,30 +302,43 @@ public final class ActsTest {
         Due.is("the tape stays", x.count(5), 20);
     }
 
+    /** What is due behind each undo is asked of other objects, which did only the acts ahead of it. */
     private static void undoOfEachAct() {
         FleetShares x = Due.made(BUSY);
-        String[] texts = new String[13];
+        String[] texts = new String[12];
         for (int act = 0; act < 12; act++) {
-            texts[act] = Due.spelled(x);
-            switch (act) {
-                case 0 -> x.fleet(1, 24);
-                case 1 -> x.claim(3, 4, 77);
-                case 2 -> x.split(3, 8);
-                case 3 -> x.merge(3, 1);
-                case 4 -> x.scale(1, 150);
-                case 5 -> x.swap(0, 1);
-                case 6 -> x.leave(2);
-                case 7 -> x.forget(1);
-                case 8 -> x.join(1, 0);
-                case 9 -> x.insure(0, 0);
-                case 10 -> x.waive(0);
-                default -> x.cap(11);
-            }
+            texts[act] = Due.held(behindActs(act));
+            doAct(x, act);
             Due.is("acts then", x.count(4), act + 1);
         }
         for (int act = 11; act >= 0; act--) {
             Due.is("undo", x.undo(), act);
-            Due.is("undone to act " + act, Due.spelled(x), texts[act]);
+            Due.is("undone to act " + act, Due.held(x), texts[act]);
+        }
+    }
+
+    private static FleetShares behindActs(int acts) {
+        FleetShares x = Due.made(BUSY);
+        for (int act = 0; act < acts; act++) {
+            doAct(x, act);
+        }
+        return x;
+    }
+
+    private static void doAct(FleetShares x, int act) {
+        switch (act) {
+            case 0 -> x.fleet(1, 24);
+            case 1 -> x.claim(3, 4, 77);
+            case 2 -> x.split(3, 8);
+            case 3 -> x.merge(3, 1);
+            case 4 -> x.scale(1, 150);
+            case 5 -> x.swap(0, 1);
+            case 6 -> x.leave(2);
+            case 7 -> x.forget(1);
+            case 8 -> x.join(1, 0);
+            case 9 -> x.insure(0, 0);
+            case 10 -> x.waive(0);
+            default -> x.cap(11);
         }
     }
 }

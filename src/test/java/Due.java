@@ -68,15 +68,37 @@ final class Due {
 
     static String spelled(FleetShares x) {
         StringBuilder text = new StringBuilder();
-        for (int i = 0; i < x.spell(FleetShares.NONE); i++) {
+        int length = x.spell(FleetShares.NONE);
+        for (int i = 0; i < length; i++) {
             text.append((char) x.spell(i));
+        }
+        return text.toString();
+    }
+
+    /** What spelled() would be, by at most 140 calls: an object may be asked 512 times in all. */
+    static String held(FleetShares x) {
+        StringBuilder text = new StringBuilder("cap " + x.count(2) + ";steady " + x.count(3) + ";");
+        int fleets = x.count(0);
+        for (int fleet = 0; fleet < fleets; fleet++) {
+            text.append("fleet ").append(x.of(fleet, 0));
+            int years = x.of(fleet, 1);
+            for (int year = 0; year < 32; year++) {
+                text.append((years >> year & 1) == 1 ? " " + year : "");
+            }
+            text.append(';');
+        }
+        int claims = x.count(1);
+        for (int claim = 0; claim < claims; claim++) {
+            text.append("claim ").append(x.claimOf(claim, 0)).append(' ').append(x.claimOf(claim, 1)).append(' ')
+                    .append(x.claimOf(claim, 2)).append(';');
         }
         return text.toString();
     }
 
     static String reported(FleetShares x, int fleet) {
         StringBuilder text = new StringBuilder();
-        for (int i = 0; i < x.report(fleet, FleetShares.NONE); i++) {
+        int length = x.report(fleet, FleetShares.NONE);
+        for (int i = 0; i < length; i++) {
             text.append((char) x.report(fleet, i));
         }
         return text.toString();

@@ -166,10 +166,10 @@ public final class LanguageTest {
     private static void callsMakeNothing() {
         com.sun.management.ThreadMXBean threads =
                 (com.sun.management.ThreadMXBean) ManagementFactory.getThreadMXBean();
-        FleetShares x = new FleetShares();
         for (int i = 0; i < 30; i++) {
-            callAll(x);
+            callAll(new FleetShares());
         }
+        FleetShares x = new FleetShares();
         long had = threads.getCurrentThreadAllocatedBytes();
         long beside = threads.getCurrentThreadAllocatedBytes() - had;
         had = threads.getCurrentThreadAllocatedBytes();

@@ -221,7 +221,7 @@ public final class WereTest {
     private static void nothingHappens() {
         FleetShares x = Due.made(SAMPLE);
         x.cap(40);
-        String had = Due.spelled(x);
+        String had = Due.held(x);
         x.shareBy(0, 5);
         x.yearsFor(0, 500);
         x.inClass(0, 2);
@@ -234,9 +234,9 @@ public final class WereTest {
         x.joined(0, 1, 3, false);
         x.withoutClaim(0, 0);
         x.dearest();
-        Due.is("spelled", Due.spelled(x), had);
+        Due.is("held", Due.held(x), had);
         Due.is("acts", x.count(4), 1);
         Due.is("undo", x.undo(), 0);
-        Due.is("undone", Due.spelled(x), SAMPLE);
+        Due.is("undone", Due.held(x), SAMPLE);
     }
 }
