@@ -68,12 +68,26 @@ public final class LanguageTest {
             """;
 
     public static void main(String[] args) throws Exception {
+        faceAsInTheDocument();
         face();
         membersAreHidden();
         wordsOfTheSource();
         shapesOfTheSource();
         callsMakeNothing();
         Due.end("LanguageTest");
+    }
+
+    /** Without the document, as outside of this workplace, what is written down above must do. */
+    private static void faceAsInTheDocument() throws Exception {
+        Path document = Path.of("../shared/DOC.md");
+        if (!Files.exists(document)) {
+            System.out.println(document + " is not there: the face is not compared with it");
+            return;
+        }
+        List<String> told = Files.readString(document).lines().filter(line -> line.startsWith("    public ")).toList();
+        String rest = "    public static final int NONE = -1;\n    public FleetShares();\n";
+        Due.is("the face in the document", String.join("\n", told) + "\n",
+                rest + FACE.replaceAll("(?m)^(?=.)", "    public "));
     }
 
     private static void face() throws Exception {
